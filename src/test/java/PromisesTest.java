@@ -64,6 +64,15 @@ public final class PromisesTest {
         return tree(parents);
     }
 
+    /** A chain of 24 nodes; the value of each is its number. */
+    private static TreeWays fullWithValues() {
+        TreeWays x = chain(24);
+        for (int n = 0; n < 24; n++) {
+            due("put", x.put(n, n), 0);
+        }
+        return x;
+    }
+
     private static TreeWays star(int nodes) {
         return tree(new int[nodes - 1]);
     }
@@ -389,6 +398,9 @@ public final class PromisesTest {
         due("waySum(4, 4)", x.waySum(4, 4), 50);
         badPairs("waySum", x);
         sameAsSampleWithValues(x);
+        TreeWays full = fullWithValues();
+        due("waySum(0, 23) of a full tree", full.waySum(0, 23), 276);
+        due("waySum(23, 22) of a full tree", full.waySum(23, 22), 45);
     }
 
     private static void wayMost() {
@@ -404,6 +416,8 @@ public final class PromisesTest {
         due("wayMost(5, 0)", x.wayMost(5, 0), 10);
         badPairs("wayMost", x);
         sameAsSampleWithValues(x);
+        due("wayMost(0, 23) of a full tree", fullWithValues().wayMost(0, 23), 23);
+        due("wayMost(22, 1) of a full tree", fullWithValues().wayMost(22, 1), 22);
     }
 
     private static void wayNode() {
@@ -480,6 +494,8 @@ public final class PromisesTest {
             due("partSum(" + bad + ")", x.partSum(bad), BAD_ARG);
         }
         sameAsSampleWithValues(x);
+        due("partSum(0) of a full tree", fullWithValues().partSum(0), 276);
+        due("partSum(22) of a full tree", fullWithValues().partSum(22), 45);
     }
 
     private static void partMost() {
@@ -493,6 +509,8 @@ public final class PromisesTest {
             due("partMost(" + bad + ")", x.partMost(bad), BAD_ARG);
         }
         sameAsSampleWithValues(x);
+        due("partMost(0) of a full tree", fullWithValues().partMost(0), 23);
+        due("partMost(22) of a full tree", fullWithValues().partMost(22), 23);
         TreeWays low = chain(3);
         due("addPart(0, -5)", low.addPart(0, -5), 3);
         due("addPart(2, -1)", low.addPart(2, -1), 1);
