@@ -205,7 +205,8 @@ public final class ModelTest {
         if (got != want) {
             wrong++;
             if (wrong <= 50) {
-                System.out.println("run " + run + ", call " + call + ": " + text + " answered " + got + ", due is " + want);
+                System.out.println("run " + run + ", call " + call + ": " + text + " answered " + got
+                    + ", due is " + want);
             }
         }
     }
