@@ -758,6 +758,10 @@ public final class BoundaryTest {
         Run run = sample().due(0, "put", 0, 1000).due(0, "put", 8, -1000).due(0, "put", 3, 0);
         values(run, 1000, 0, 0, 0, 0, 0, 0, 0, -1000);
         chain().due(0, "put", 23, 7).due(7, "value", 23).due(7, "partSum", 0);
+        // Over a value that is there: another one, the same one, 0, and one that has grown out of x's range.
+        lone().due(0, "put", 0, 1000).due(1000, "put", 0, -1000).due(-1000, "value", 0);
+        lone().due(0, "put", 0, 1000).due(1000, "put", 0, 1000).due(1000, "value", 0);
+        lone().due(0, "put", 0, 1000).due(1, "addPart", 0, 100).due(1100, "put", 0, 0).due(0, "value", 0);
     }
 
     private static void putTestsNodeFirst() {
